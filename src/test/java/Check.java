@@ -1,0 +1,65 @@
+import java.nio.charset.StandardCharsets;
+
+/** What the tests of the project share: answers that are due, findings by name, texts for THE TAPE. */
+final class Check {
+    static final int BEYOND = -1000000001;
+    static final int FULL = -1000000002;
+    static final int KIND = -1000000003;
+    static final int NONE = -1000000004;
+    static final int STATE = -1000000005;
+    static final int MISSING = -1000000006;
+    static final int SIZE = -1000000007;
+
+    private static int asked = 0;
+    private static int wrong = 0;
+
+    private Check() {
+    }
+
+    static void due(String what, long got, long want) {
+        asked++;
+        if (got != want) {
+            wrong++;
+            System.out.println(what + ": answered " + got + ", due is " + want);
+        }
+    }
+
+    static void wrong(String what) {
+        asked++;
+        wrong++;
+        System.out.println(what);
+    }
+
+    /** Ends a test: exit code 1 if an answer was not as due. */
+    static void end() {
+        System.out.println(asked + " asked, " + wrong + " wrong");
+        if (wrong != 0 || asked == 0) {
+            System.exit(1);
+        }
+    }
+
+    static void feed(WarmGlass x, String text) {
+        for (byte b : text.getBytes(StandardCharsets.ISO_8859_1)) {
+            x.feed(b, 1);
+        }
+    }
+
+    static int law(WarmGlass x, String text, int ray) {
+        feed(x, text);
+        return x.law(ray);
+    }
+
+    static int told(WarmGlass x, String text, int use) {
+        feed(x, text);
+        return x.told(use);
+    }
+
+    /** A CELL told by its parts. */
+    static int cell(WarmGlass x, int kind, int[] massLossPower, int gas, int water) {
+        return x.cell(kind, massLossPower[0] * 1000000 + massLossPower[1] * 10000 + massLossPower[2], gas, water);
+    }
+
+    static int[] of(int mass, int loss, int power) {
+        return new int[] {mass, loss, power};
+    }
+}
