@@ -10,6 +10,7 @@ public final class HousesTest {
         besideEachOther();
         sharedCoins();
         sharedRests();
+        leastBalances();
         lines();
         Check.end();
     }
@@ -239,6 +240,34 @@ public final class HousesTest {
         due("120", x.houseOf(2, 6), 120);
         due("the lesser rest", x.shared(100, 1), 57);
         due("the greater rest", x.shared(100, 2), 43);
+    }
+
+    private static void leastBalances() {
+        // READ 5 and POWER 4 is 1 an HOUR; READ 5 and POWER 5 is 0.
+        WarmGlass x = new WarmGlass();
+        x.cell(4, 99010004, 0, 9999);
+        x.cell(4, 99010005, 0, 9999);
+        x.house(1000, 1);
+        x.house(1001, 1);
+        x.house(1000, 2);
+        x.hours(1);
+        due("1 is MORE", x.saying(1), 1);
+        due("a BALANCE of 1 gets all", x.shared(7, 0), 7);
+        due("others none", x.shared(7, 1), 0);
+        due("1 above 0", x.beside(0, 1), 1);
+        due("0 below 1", x.beside(1, 0), -1);
+        x.hours(1);
+        due("2 is MORE", x.saying(1), 5);
+        due("2 of 2 beside 0", x.beside(2, 1), 1);
+        x.power(0, 6);
+        x.hours(1);
+        due("1", x.houseOf(0, 6), 1);
+        due("1 isn't taken back", x.saying(1), 5);
+        due("the half", x.shared(7, 0), 4);
+        due("the half, less", x.shared(7, 2), 3);
+        x.hours(1);
+        due("0 is taken back", x.saying(2), 5);
+        due("none is left", x.shared(7, 0), Check.NONE);
     }
 
     private static void lines() {

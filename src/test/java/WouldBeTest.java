@@ -92,6 +92,7 @@ public final class WouldBeTest {
         Check.law(x, "if(less(h,49),0,1000)", 0);
         Check.law(x, "if(less(h,50),0,1000)", 0);
         due("in the 50th", x.parted(0, -1, 1, 1), 50);
+        due("in the 50th, the other way", x.parted(0, 1, -1, 1), 50);
         due("in the 51st", x.parted(0, -1, 2, 1), Check.NONE);
         due("no CELL", x.parted(1, 0, -1, 1), Check.BEYOND);
         due("LAW 3", x.parted(0, 3, -1, 1), Check.BEYOND);
@@ -172,6 +173,9 @@ public final class WouldBeTest {
         due("behind 1 still", x.night(0, 141), 1);
         due("behind 2", x.night(0, 140), 2);
         due("POWER stays", x.of(0, 1), 1000);
+        Check.law(x, "mul(p,9999)", 0);
+        x.force(1);
+        due("p is 0", x.night(0, 141), 1);
         x.force(0);
         due("THE LAW goes on", x.night(0, 10), Check.NONE);
         due("read -1", x.night(0, -1), Check.BEYOND);
@@ -243,6 +247,19 @@ public final class WouldBeTest {
         due("sheet 4", x.read(4, 0), Check.BEYOND);
         due("MISSING is asked ahead of the CELL", x.read(2, 9), Check.MISSING);
         due("no CELL", x.read(0, 1), Check.BEYOND);
+        WarmGlass y = new WarmGlass();
+        y.cell(0, 10020000, 0, 1);
+        Check.law(y, "mul(h,100)", 0);
+        y.force(0);
+        y.hours(1);
+        // HEAT 100 less 20; 280 less 56; 524 less 104.
+        y.sheet(0, 16, 3);
+        y.write(0, 0, 8);
+        y.write(0, 1, 22);
+        y.write(0, 2, 42);
+        due("h goes on", y.read(0, 0), 0);
+        y.write(0, 2, 41);
+        due("the last isn't", y.read(0, 0), 3);
         x.power(0, 9999);
         x.sheet(3, 8, 1);
         x.write(3, 0, x.foretold(0, 0, 1, 1));
