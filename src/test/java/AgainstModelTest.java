@@ -11,7 +11,16 @@ public final class AgainstModelTest {
     private static final int CALLS = 512;
     private static final String[] WORDS = {"p", "t", "h", "c", "w", "sum", "less", "mul", "part", "min", "max", "if"};
 
+    /** Numbers at which something of the document begins or ends, and those beside them. */
+    private static final int[] EDGES = {
+        Integer.MIN_VALUE, -1000000001, -1000, -2, -1, 0, 1, 2, 3, 4, 5, 6, 7, 8, 9, 10, 11, 16, 20, 21, 32, 39, 40, 41, 49,
+        50, 51, 64, 98, 99, 100, 101, 199, 200, 201, 299, 300, 301, 998, 999, 1000, 1001, 1008, 1110, 1111, 1999, 2000, 2001,
+        9998, 9999, 10000, 99111, 99117, 99998, 99999, 100000, 999998, 999999, 1000000, 1009999, 1010000, 1019999, 99009999,
+        99010000, 99999999, 100000000, 100010000, Integer.MAX_VALUE
+    };
+
     private final Random random;
+    private final boolean atEdges;
     private final WarmGlass program = new WarmGlass();
     private final Model model = new Model();
     private final List<String> told = new ArrayList<>();
@@ -19,6 +28,7 @@ public final class AgainstModelTest {
 
     private AgainstModelTest(long seed) {
         random = new Random(seed);
+        atEdges = seed % 3 == 1;
     }
 
     public static void main(String[] args) throws Exception {
@@ -147,9 +157,8 @@ public final class AgainstModelTest {
 
     private boolean randomCall(Method[] face, Method m) throws Exception {
         long[] a = arguments(m.getName());
-        if (a.length > 0 && random.nextInt(25) == 0) {
-            int[] odd = {-1, 0, Integer.MIN_VALUE, Integer.MAX_VALUE, 1000000, random.nextInt(), 8, 41, 101};
-            a[random.nextInt(a.length)] = odd[random.nextInt(odd.length)];
+        if (a.length > 0 && random.nextInt(atEdges ? 2 : 25) == 0) {
+            a[random.nextInt(a.length)] = random.nextInt(9) == 0 ? random.nextInt() : EDGES[random.nextInt(EDGES.length)];
         }
         return call(face, m, a);
     }

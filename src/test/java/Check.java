@@ -38,9 +38,16 @@ final class Check {
         }
     }
 
+    /** THE TAPE gets a text, four bytes at a time: an object has 512 calls only. */
     static void feed(WarmGlass x, String text) {
-        for (byte b : text.getBytes(StandardCharsets.ISO_8859_1)) {
-            x.feed(b, 1);
+        byte[] bytes = text.getBytes(StandardCharsets.ISO_8859_1);
+        for (int i = 0; i < bytes.length; i += 4) {
+            int n = Math.min(4, bytes.length - i);
+            int four = 0;
+            for (int k = 0; k < n; k++) {
+                four = four << 8 | bytes[i + k] & 255;
+            }
+            x.feed(four, n);
         }
     }
 
@@ -52,14 +59,5 @@ final class Check {
     static int told(WarmGlass x, String text, int use) {
         feed(x, text);
         return x.told(use);
-    }
-
-    /** A CELL told by its parts. */
-    static int cell(WarmGlass x, int kind, int[] massLossPower, int gas, int water) {
-        return x.cell(kind, massLossPower[0] * 1000000 + massLossPower[1] * 10000 + massLossPower[2], gas, water);
-    }
-
-    static int[] of(int mass, int loss, int power) {
-        return new int[] {mass, loss, power};
     }
 }

@@ -19,13 +19,6 @@ public final class HousesTest {
         Check.due(what, got, want);
     }
 
-    /** A JACKET without POWER: its thermometer tells 5, whatever its HEAT below 198. */
-    private static WarmGlass jacket() {
-        WarmGlass x = new WarmGlass();
-        x.cell(4, 99010000, 0, 9999);
-        return x;
-    }
-
     private static void newHouses() {
         WarmGlass x = new WarmGlass();
         x.cell(0, 1010000, 0, 0);
@@ -95,7 +88,7 @@ public final class HousesTest {
     }
 
     private static void chosenHours() {
-        WarmGlass x = jacket();
+        WarmGlass x = Scenes.jacket();
         x.house(1010, 99999);
         x.house(1000, 99999);
         x.hours(1);
@@ -121,7 +114,7 @@ public final class HousesTest {
     }
 
     private static void moreAndTakenBack() {
-        WarmGlass x = jacket();
+        WarmGlass x = Scenes.jacket();
         x.house(2000, 20);
         due("at first", x.houseOf(0, 9), 0);
         x.hours(1);
@@ -159,7 +152,7 @@ public final class HousesTest {
     }
 
     private static WarmGlass three() {
-        WarmGlass x = jacket();
+        WarmGlass x = Scenes.jacket();
         x.house(2000, 20);
         x.house(4000, 20);
         x.house(2000, 20);
@@ -223,7 +216,7 @@ public final class HousesTest {
 
     private static void sharedRests() {
         // One that took it back with a BALANCE above 0 again gets nothing.
-        WarmGlass x = jacket();
+        WarmGlass x = Scenes.jacket();
         x.house(2000, 10);
         x.house(9000, 10);
         x.house(7000, 10);

@@ -28,6 +28,8 @@ public final class LanguageTest {
         "\\bsynchronized\\b", "\\bassert\\b", "->", "::", "\\bprotected\\b", "static\\s*\\{", "Exact\\b",
         "\\bSystem\\.(?!arraycopy\\b)", "\\bhashCode\\b", "\\btoString\\b", "\\bvar\\b", "\\bdouble\\b", "\\bfloat\\b",
         "while\\s*\\(\\s*true\\s*\\)", "for\\s*\\(\\s*;\\s*;",
+        "\\bnew\\s+\\w+\\s*\\([^)]*\\)\\s*\\{", "(?m)^ +(?:private )?(?:final )?class\\b", "\\bnative\\b", "\\bvolatile\\b",
+        "(?m)^ +(?:private )?static (?!final )[\\w\\[\\]]+ \\w+\\s*[=;]", "\" \\+ ", " \\+ \"", "\\bequals\\b", "\\bgetClass\\b",
     };
     private static final Pattern METHOD = Pattern.compile(
         "^( +)((?:public |private |static |final )*)(?:int|long|boolean|void|[A-Z]\\w*(?:\\[\\])?) (\\w+)\\(([^)]*)\\) \\{$");

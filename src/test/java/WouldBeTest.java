@@ -19,17 +19,8 @@ public final class WouldBeTest {
         Check.due(what, got, want);
     }
 
-    /** READS are 60, 108, 146, 177 without a LAW; 68, 122, 166 by LAW 0. */
-    private static WarmGlass one() {
-        WarmGlass x = new WarmGlass();
-        x.cell(0, 10021000, 25, 9999);
-        Check.law(x, "100", 50);
-        Check.told(x, "7", 0);
-        return x;
-    }
-
     private static void foretold() {
-        WarmGlass x = one();
+        WarmGlass x = Scenes.one();
         due("HEAT behind none", x.foretold(0, 0, 0, 0), 0);
         due("RAYS behind none are the latest", x.foretold(0, 0, 0, 2), 0);
         due("HEAT behind 1", x.foretold(0, 0, 1, 0), 680);
@@ -69,7 +60,7 @@ public final class WouldBeTest {
     }
 
     private static void foretoldBeyondTheLastHour() {
-        WarmGlass x = one();
+        WarmGlass x = Scenes.one();
         for (int i = 0; i < 20; i++) {
             x.hours(100);
         }
@@ -82,7 +73,7 @@ public final class WouldBeTest {
     }
 
     private static void parted() {
-        WarmGlass x = one();
+        WarmGlass x = Scenes.one();
         due("by 8", x.parted(0, 0, -1, 8), 1);
         due("by 9", x.parted(0, 0, -1, 9), 2);
         due("by 14", x.parted(0, -1, 0, 14), 2);
@@ -102,7 +93,7 @@ public final class WouldBeTest {
     }
 
     private static void look() {
-        WarmGlass x = one();
+        WarmGlass x = Scenes.one();
         Check.law(x, "100", 80);
         Check.law(x, "100", 81);
         Check.law(x, "100", 79);
@@ -131,7 +122,7 @@ public final class WouldBeTest {
     }
 
     private static void must() {
-        WarmGlass x = one();
+        WarmGlass x = Scenes.one();
         Check.law(x, "mul(9999,9999)", 999);
         Check.law(x, "less(0,1)", 999);
         Check.law(x, "33", 10);
@@ -145,7 +136,7 @@ public final class WouldBeTest {
     }
 
     private static void barred() {
-        WarmGlass x = one();
+        WarmGlass x = Scenes.one();
         due("slip 56", x.barred(0, 0, 56), 1);
         due("slip 57", x.barred(0, 0, 57), 0);
         x.force(0);
@@ -164,7 +155,7 @@ public final class WouldBeTest {
     }
 
     private static void night() {
-        WarmGlass x = one();
+        WarmGlass x = Scenes.one();
         due("READ is so now", x.night(0, 0), 0);
         x.hours(4);
         due("READ", x.of(0, 9), 177);
@@ -220,13 +211,13 @@ public final class WouldBeTest {
         due("n 21", x.need(0, 0, 21), Check.BEYOND);
         due("no CELL", x.need(2, 0, 1), Check.BEYOND);
         due("n 20", x.need(0, 0, 20), 0);
-        WarmGlass y = one();
+        WarmGlass y = Scenes.one();
         due("with POWER as it is", y.need(0, 600, 1), 0);
         due("and more", y.need(0, 680, 1), 98);
     }
 
     private static void reader() {
-        WarmGlass x = one();
+        WarmGlass x = Scenes.one();
         int[] reads = {60, 108, 146, 177};
         x.sheet(0, 64, 4);
         for (int i = 0; i < reads.length; i++) {
@@ -267,7 +258,7 @@ public final class WouldBeTest {
     }
 
     private static void nothingIsChanged() {
-        WarmGlass x = one();
+        WarmGlass x = Scenes.one();
         x.house(1000, 1);
         x.hours(3);
         x.foretold(0, 0, 100, 0);
