@@ -1,3 +1,6 @@
+import java.lang.reflect.Field;
+import java.lang.reflect.Method;
+import java.lang.reflect.Modifier;
 import java.nio.file.Files;
 import java.nio.file.Path;
 import java.util.ArrayList;
@@ -46,10 +49,31 @@ public final class LanguageTest {
             Check.due("of the face: " + one, code.contains("    public " + one + " {") ? 1 : 0, 1);
             faceNames.add(one.replaceFirst("^(int|long) ", "").replaceFirst("\\(.*", ""));
         }
+        document(code);
         Check.due("public words", code.split("\\bpublic\\b", -1).length - 1, FACE.length + 1);
         Check.due("classes", code.split("\\bclass\\b", -1).length - 1 <= 12 ? 1 : 0, 1);
         methods(code.split("\n"), faceNames);
         Check.end();
+    }
+
+    /** The face is read from the document, too, so that a call that it gets or loses isn't overlooked. */
+    private static void document(String code) throws Exception {
+        Matcher face = Pattern.compile("(?m)^    public (.*);$").matcher(Files.readString(Path.of("../shared/DOC.md")));
+        int told = 0;
+        while (face.find()) {
+            told++;
+            Check.due("of the document: " + face.group(1), code.contains("    public " + face.group(1) + " {") ? 1 : 0, 1);
+        }
+        Check.due("calls of the document", told, FACE.length);
+        int visible = WarmGlass.class.getFields().length + WarmGlass.class.getConstructors().length;
+        for (Method one : WarmGlass.class.getDeclaredMethods()) {
+            visible += Modifier.isPrivate(one.getModifiers()) ? 0 : 1;
+        }
+        for (Field one : WarmGlass.class.getDeclaredFields()) {
+            visible += Modifier.isPrivate(one.getModifiers()) ? 0 : 1;
+        }
+        Check.due("members that can be seen", visible, told);
+        Check.due("a class that is final", Modifier.isFinal(WarmGlass.class.getModifiers()) ? 1 : 0, 1);
     }
 
     private static void methods(String[] lines, List<String> faceNames) {
